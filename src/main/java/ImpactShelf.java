@@ -591,6 +591,7 @@ public final class ImpactShelf {
 
         private double scoreOf(int t, int d) {
             int tf = times[t * DOCUMENTS + d];
+            // Where there is a posting none of the others is 0; they are looked at because they divide.
             if (tf == 0 || inDocuments[t] == 0 || documents == 0 || lengthOfAll == 0) {
                 return 0.0;
             }

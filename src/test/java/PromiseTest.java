@@ -169,6 +169,12 @@ public final class PromiseTest {
         Checks.same("3: 600 postings of 25", x.count(2), 600);
         Checks.refuses("3: a posting too many", Checks.STATE, () -> Checks.add(x, "a"));
         Checks.same("3: documents as before", x.count(0), 25);
+        x.clear();
+        for (int d = 0; d < 40; d++) {
+            Checks.same("3: forty small documents", Checks.add(x, "a"), d);
+        }
+        Checks.refuses("3: a small one too many", Checks.STATE, () -> Checks.add(x, "a"));
+        Checks.same("3: it did not come", x.count(3), 40);
     }
 
     private static void clear() {
@@ -356,10 +362,11 @@ public final class PromiseTest {
         x.cut(3);
         Checks.isFalse("11: of three", x.mend());
         Checks.same("11: they stay", Checks.fileOf(x), "1,0,0");
-        ImpactShelf y = Checks.shelfOf(twoLetterWords(0, 64));
+        ImpactShelf y = Checks.shelfOf(twoLetterWords(0, 64).replace(" ", "zzzzzz "));
         y.build(8, 0);
-        Checks.same("11: a sum that has passed its modulus", Checks.fileOf(y).equals(
-            Checks.withSum(Checks.fileOf(y).replaceAll("(,[0-9]+){4}$", ""))), true);
+        String all = Checks.fileOf(y);
+        Checks.same("11: a sum whose parts both passed 65521", all,
+            Checks.withSum(all.substring(0, all.replaceAll("(,[0-9]+){4}$", "").length())));
     }
 
     private static void publish() {
