@@ -1,6 +1,6 @@
 /** Each promise by itself: ordinary calls, the edges that the document names, and wrong calls. */
 public final class PromiseTest {
-    private static final long EVER = Long.MAX_VALUE;
+    private static final long EVER = Shelves.EVER;
 
     private PromiseTest() {
     }
@@ -40,32 +40,6 @@ public final class PromiseTest {
 
     private static String many(String text, int times) {
         return text.repeat(times);
-    }
-
-    /** Words of two letters, from the first'th on, each another one. */
-    private static String twoLetterWords(int first, int many) {
-        StringBuilder all = new StringBuilder();
-        for (int i = first; i < first + many; i++) {
-            all.append((char) ('a' + i / 26)).append((char) ('a' + i % 26)).append(' ');
-        }
-        return all.toString();
-    }
-
-    /**
-     * Terms bean (0), fig (1), oat (2), rye (3); with four bits and by hand: bean 15 in document 2;
-     * fig 4 in 3, 3 in 1 and 4; oat 2 in 0 and 1, 1 in 2 and 4; rye 5 in 3, 4 in 5, 3 in 0.
-     */
-    private static ImpactShelf sixDocuments() {
-        return Checks.shelfOf("oat rye oat", "oat oat fig", "oat bean bean bean", "rye fig fig rye rye rye", "oat fig",
-            "rye");
-    }
-
-    private static ImpactShelf opened(int reader) {
-        ImpactShelf x = sixDocuments();
-        x.build(4, 0);
-        x.publish();
-        x.open(reader);
-        return x;
     }
 
     private static void newObject() {
@@ -148,33 +122,30 @@ public final class PromiseTest {
 
     private static void addToItsLimits() {
         ImpactShelf x = new ImpactShelf();
-        Checks.refuses("3: 65 terms", Checks.STATE, () -> Checks.add(x, twoLetterWords(0, 65)));
+        Checks.refuses("3: 65 terms", Checks.STATE, () -> Checks.add(x, Shelves.twoLetterWords(0, 65)));
         Checks.same("3: none of them came", x.count(1), 0);
-        Checks.same("3: 64 terms", Checks.add(x, twoLetterWords(0, 64)), 0);
+        Checks.same("3: 64 terms", Checks.add(x, Shelves.twoLetterWords(0, 64)), 0);
         Checks.refuses("3: one more", Checks.STATE, () -> Checks.add(x, "zz aa"));
         Checks.same("3: the tape is used up", x.look(4), 0);
         Checks.same("3: postings as before", x.count(2), 64);
         Checks.same("3: a term that is there", Checks.add(x, "aa aa"), 1);
-        x.clear();
+        ImpactShelf y = new ImpactShelf();
         for (int d = 0; d < 40; d++) {
-            Checks.same("3: forty documents of fifteen terms", Checks.add(x, "a b c d e f g h i j k l m n o"), d);
+            Checks.same("3: forty documents of fifteen terms", Checks.add(y, "a b c d e f g h i j k l m n o"), d);
         }
-        Checks.same("3: 600 postings", x.count(2), 600);
-        Checks.refuses("3: a document too many", Checks.STATE, () -> Checks.add(x, "a"));
-        Checks.refuses("3: a document too many, without words", Checks.ARGUMENT, () -> Checks.add(x, "1"));
-        x.clear();
+        Checks.same("3: 600 postings", y.count(2), 600);
+        Checks.refuses("3: a document too many", Checks.STATE, () -> Checks.add(y, "a"));
+        Checks.refuses("3: a document too many, without words", Checks.ARGUMENT, () -> Checks.add(y, "1"));
+        y.clear();
         for (int d = 0; d < 25; d++) {
-            Checks.add(x, "a b c d e f g h i j k l m n o p q r s t u v w x");
+            Checks.add(y, "a b c d e f g h i j k l m n o p q r s t u v w x");
         }
-        Checks.same("3: 600 postings of 25", x.count(2), 600);
-        Checks.refuses("3: a posting too many", Checks.STATE, () -> Checks.add(x, "a"));
-        Checks.same("3: documents as before", x.count(0), 25);
-        x.clear();
-        for (int d = 0; d < 40; d++) {
-            Checks.same("3: forty small documents", Checks.add(x, "a"), d);
-        }
-        Checks.refuses("3: a small one too many", Checks.STATE, () -> Checks.add(x, "a"));
-        Checks.same("3: it did not come", x.count(3), 40);
+        Checks.same("3: 600 postings of 25", y.count(2), 600);
+        Checks.refuses("3: a posting too many", Checks.STATE, () -> Checks.add(y, "a"));
+        Checks.same("3: documents as before", y.count(0), 25);
+        ImpactShelf z = Shelves.documents(40);
+        Checks.refuses("3: a small one too many", Checks.STATE, () -> Checks.add(z, "a"));
+        Checks.same("3: it did not come", z.count(3), 40);
     }
 
     private static void clear() {
@@ -284,7 +255,7 @@ public final class PromiseTest {
     }
 
     private static void buildImpacts() {
-        ImpactShelf x = sixDocuments();
+        ImpactShelf x = Shelves.sixDocuments();
         Checks.same("7: impacts of four bits", x.build(4, 0), 58);
         Checks.same("7: segments by falling impacts", Checks.fileOf(x), Checks.withSum("73,109,4,0,6,4"
             + ",4,98,101,97,110,1,15,1,130" + ",3,102,105,103,2,4,1,131,3,2,129,130"
@@ -362,7 +333,7 @@ public final class PromiseTest {
         x.cut(3);
         Checks.isFalse("11: of three", x.mend());
         Checks.same("11: they stay", Checks.fileOf(x), "1,0,0");
-        ImpactShelf y = Checks.shelfOf(twoLetterWords(0, 64).replace(" ", "zzzzzz "));
+        ImpactShelf y = Checks.shelfOf(Shelves.twoLetterWords(0, 64).replace(" ", "zzzzzz "));
         y.build(8, 0);
         String all = Checks.fileOf(y);
         Checks.same("11: a sum whose parts both passed 65521", all,
@@ -444,7 +415,7 @@ public final class PromiseTest {
     }
 
     private static void close() {
-        ImpactShelf x = opened(1);
+        ImpactShelf x = Shelves.opened(1);
         Checks.isFalse("14: it was closed", x.close(0));
         Checks.refuses("14: reader 4", Checks.ARGUMENT, () -> x.close(4));
         Checks.refuses("14: reader -1", Checks.ARGUMENT, () -> x.close(-1));
@@ -463,7 +434,7 @@ public final class PromiseTest {
     }
 
     private static void query() {
-        ImpactShelf x = opened(1);
+        ImpactShelf x = Shelves.opened(1);
         Checks.same("15: all hits", Checks.query(x, "Oats, rye rye; FIGS bean maize", 1, 40, 1000, EVER), 6);
         Checks.same("15: the tape is used up", x.look(4), 0);
         Checks.same("15: two hits", Checks.query(x, "oat fig", 1, 2, 1000, EVER), 2);
@@ -516,7 +487,7 @@ public final class PromiseTest {
     }
 
     private static void hit() {
-        ImpactShelf x = opened(0);
+        ImpactShelf x = Shelves.opened(0);
         Checks.refuses("16: ahead of any", Checks.NONE, () -> x.hit(0, 0));
         Checks.query(x, "oat fig rye bean", 0, 5, 1000, EVER);
         int[][] due = {{2, 16}, {3, 9}, {0, 5}, {1, 5}, {4, 4}};
@@ -538,7 +509,7 @@ public final class PromiseTest {
     }
 
     private static void sum() {
-        ImpactShelf x = opened(0);
+        ImpactShelf x = Shelves.opened(0);
         Checks.same("17: ahead of any", x.sum(39), 0);
         Checks.query(x, "oat fig rye bean", 0, 1, 1000, EVER);
         int[] due = {5, 5, 16, 9, 4, 4, 0};
@@ -563,7 +534,7 @@ public final class PromiseTest {
     }
 
     private static void last() {
-        ImpactShelf x = opened(0);
+        ImpactShelf x = Shelves.opened(0);
         Checks.query(x, "oat fig rye bean", 0, 1, 1000, EVER);
         lasts("all", x, 4, 8, 8, 11, 11, 0);
         Checks.query(x, "oat fig rye bean", 0, 1, 6, EVER);
@@ -589,7 +560,7 @@ public final class PromiseTest {
     }
 
     private static void plan() {
-        ImpactShelf x = opened(0);
+        ImpactShelf x = Shelves.opened(0);
         Checks.refuses("19: ahead of any", Checks.NONE, () -> x.plan(0, 0));
         Checks.query(x, "rye oat fig bean", 0, 1, 2, EVER);
         int[][] due = {{0, 15, 1}, {3, 5, 1}, {1, 4, 1}, {3, 4, 1}, {3, 3, 1}, {1, 3, 2}, {2, 2, 2}, {2, 1, 2}};
@@ -612,7 +583,7 @@ public final class PromiseTest {
     }
 
     private static void exhaustive() {
-        ImpactShelf x = opened(0);
+        ImpactShelf x = Shelves.opened(0);
         Checks.isTrue("20: ahead of any", x.exhaustive());
         for (int rho = 0; rho < 12; rho++) {
             Checks.query(x, "rye oat fig bean", 0, 1, rho, EVER);
@@ -627,7 +598,7 @@ public final class PromiseTest {
     }
 
     private static void look() {
-        ImpactShelf x = opened(0);
+        ImpactShelf x = Shelves.opened(0);
         x.feed(3, 0);
         Checks.same("21: the latest generation", x.look(0), 1);
         Checks.same("21: kept", x.look(1), 1);
@@ -644,7 +615,7 @@ public final class PromiseTest {
     }
 
     private static void holds() {
-        ImpactShelf x = opened(2);
+        ImpactShelf x = Shelves.opened(2);
         Checks.same("22: a generation", x.holds(2), 1);
         Checks.same("22: closed", x.holds(3), -1);
         x.publish();
@@ -656,7 +627,7 @@ public final class PromiseTest {
     }
 
     private static void index() {
-        ImpactShelf x = opened(2);
+        ImpactShelf x = Shelves.opened(2);
         int[] due = {6, 4, 11, 8};
         for (int what = 0; what < 4; what++) {
             Checks.same("23: what " + what, x.index(2, what), due[what]);
@@ -675,7 +646,7 @@ public final class PromiseTest {
     }
 
     private static void clock() {
-        ImpactShelf x = opened(0);
+        ImpactShelf x = Shelves.opened(0);
         Checks.query(x, "oat fig rye bean", 0, 1, 1000, EVER);
         Checks.same("24: a tick a posting", x.clock(), 11);
         Checks.query(x, "oat", 0, 1, 1, EVER);
