@@ -100,6 +100,8 @@ public final class FileBoundaryTest {
         for (int bits = 2; bits <= 8; bits++) {
             Checks.same("impact: the least, bits " + bits, impact(Shelves.sixDocuments(), bits, "oat", 2), 1);
             Checks.same("impact: the greatest, bits " + bits, impact(Shelves.sixDocuments(), bits, "bean", 2), q[bits - 2]);
+            Checks.same("impact: the first posting is the least, bits " + bits,
+                impact(Checks.shelfOf("a z z z z z", "a", "z"), bits, "a", 0), 1);
             Checks.same("impact: 0 is the least, bits " + bits, impact(Checks.shelfOf("a b", "a"), bits, "a", 0), 1);
         }
     }
@@ -403,8 +405,12 @@ public final class FileBoundaryTest {
         right("8 bits", "73,109,8,0,1,1,1,97,1,255,1,128");
         wrong("9 bits", "73,109,9,0,1,1,1,97,1,255,1,128");
         wrong("34 bits", "73,109,34,0,1,1,1,97,1,3,1,128");
-        wrong("codec 3", "73,109,2,3,1,1,1,97,1,3,1,128");
-        wrong("codec 255", "73,109,2,255,1,1,1,97,1,3,1,128");
+        for (int codec : new int[] {3, 4, 7, 128, 254, 255}) {
+            // As codec 0, 1 and 2 would tell a gap of 0.
+            wrong("codec " + codec + ", a byte of 128", "73,109,2," + codec + ",1,1,1,97,1,3,1,128");
+            wrong("codec " + codec + ", a word", "73,109,2," + codec + ",1,1,1,97,1,3,1" + zeros(8));
+            wrong("codec " + codec + ", a byte of 0", "73,109,2," + codec + ",1,1,1,97,1,3,1,0");
+        }
         wrong("N 0", "73,109,2,0,0,1,1,97,1,3,1,128");
         right("N 40 of one document", FORTY + ",1,97,1,3,1,128");
         wrong("N 41", "73,109,2,0,41,1,1,97,1,3,1,128");
@@ -542,6 +548,7 @@ public final class FileBoundaryTest {
         wrong("a gap of 1 in two bytes", FORTY + ",1,97,1,3,1,1,128");
         wrong("a gap of 128", FORTY + ",1,97,1,3,1,0,129");
         wrong("a gap without a last byte", ONE + ",1,97,1,3,1,0");
+        wrong("a gap of 127 that goes on for nothing", FORTY + ",1,97,1,3,1,127");
         wrong("a gap of 127", FORTY + ",1,97,1,3,1,255");
         wrong("a gap below 0", FORTY + ",1,97,1,3,1,127,255,255,255,143");
         right("gaps up to the last document", FORTY + ",1,97,1,3,3,138,138,145");

@@ -14,6 +14,9 @@ public final class ReaderBoundaryTest {
         publishOfAFourth();
         publishWhereTheLatestGoes();
         publishOfAFileAlone();
+        publishBesideOneThatWent();
+        generation0StaysEmpty();
+        nothingIsLeftOfALargerOne();
         keptByTheLastReader();
         latestIsKeptWithoutAReader();
         openOfNoReader();
@@ -152,6 +155,59 @@ public final class ReaderBoundaryTest {
         x.open(0);
         Checks.same("12: its own, the file is cut", x.index(0, 0), 1);
         Checks.same("12: can be asked", Checks.query(x, "", 0, 40, 600, Shelves.EVER), 1);
+    }
+
+    private static void publishBesideOneThatWent() {
+        ImpactShelf x = held(1);
+        x.publish();
+        x.close(0);
+        Checks.same("12: the older one went", x.look(1), 1);
+        Checks.same("12: a third generation", x.publish(), 3);
+        Checks.same("12: the latest went, too", x.look(1), 1);
+        x.open(0);
+        x.publish();
+        x.open(1);
+        x.publish();
+        x.close(0);
+        Checks.same("12: one in the middle is held, and the latest", x.look(1), 2);
+        Checks.same("12: a sixth generation", x.publish(), 6);
+        Checks.same("12: the fourth and the sixth", x.look(1), 2);
+        Checks.same("12: the fourth", x.index(1, 0), 1);
+    }
+
+    private static void generation0StaysEmpty() {
+        ImpactShelf x = withFile();
+        x.open(3);
+        x.publish();
+        x.open(0);
+        x.publish();
+        x.close(0);
+        for (int what = 0; what < 4; what++) {
+            Checks.same("generation 0: empty where another went, " + what, x.index(3, what), 0);
+        }
+        Checks.same("generation 0: without a term", Checks.query(x, "fig", 3, 40, 600, Shelves.EVER), 0);
+        x.publish();
+        Checks.same("generation 0: empty still", x.index(3, 0), 0);
+    }
+
+    private static void nothingIsLeftOfALargerOne() {
+        ImpactShelf x = Shelves.sixDocuments();
+        for (int g = 1; g < 9; g++) {
+            x.build(2, 0);
+            x.publish();
+        }
+        x.clear();
+        Checks.add(x, "a");
+        for (int g = 9; g < 17; g++) {
+            x.build(2, 0);
+            Checks.same("12: a small one, " + g, x.publish(), g);
+            x.open(g % 2);
+            Checks.same("12: asked for terms of the larger, " + g, Checks.query(x, "oat fig rye bean", g % 2, 40, 600,
+                Shelves.EVER), 0);
+            Checks.same("12: it has none of them, " + g, x.last(0), 0);
+            Checks.same("12: its segments, " + g, x.index(g % 2, 3), 1);
+            x.close(1 - g % 2);
+        }
     }
 
     private static void keptByTheLastReader() {

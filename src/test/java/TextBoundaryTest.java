@@ -355,7 +355,12 @@ public final class TextBoundaryTest {
         Checks.same("6: LN of 2 once more", logarithm(40, 20), 0.6931471805599453);
         Checks.same("6: LN of 4", logarithm(4, 1), 2 * 0.6931471805599453);
         Checks.same("6: LN of 32", logarithm(32, 1), 5 * 0.6931471805599453);
-        int[][] others = {{39, 20}, {40, 19}, {40, 21}, {40, 39}, {39, 10}, {40, 11}, {39, 1}, {40, 1}, {31, 1}, {3, 1}};
+        // Reckoned apart, near 2 where each of the terms 1, 3, .. 23 counts, and none beyond.
+        Checks.same("6: LN of 39 / 20", logarithm(39, 20), 0.6678293725756113);
+        Checks.same("6: LN of 40 / 21", logarithm(40, 21), 0.6443570163904941);
+        Checks.same("6: LN of 39 / 10", logarithm(39, 10), 1.3609765531355564);
+        Checks.same("6: LN of 31", logarithm(31, 1), 3.433987204485111);
+        int[][] others = {{40, 19}, {40, 39}, {40, 11}, {39, 1}, {40, 1}, {3, 1}};
         for (int[] pair : others) {
             double near = Math.log((double) pair[0] / pair[1]);
             double got = logarithm(pair[0], pair[1]);
